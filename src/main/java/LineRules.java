@@ -158,6 +158,11 @@ public final class LineRules {
         final int[] table = new int[MOST_WINDOWS];
         /** For each node and state the set of nodes behind it, a bit each, where that is made. */
         final long[] followers = new long[MOST_NODES * MOST_STATES];
+        /** The nodes at both ends of each window, the windows being sorted by what they make. */
+        final int[] starts = new int[MOST_WINDOWS];
+        final int[] ends = new int[MOST_WINDOWS];
+        /** Where the windows that make a state begin among those, and where the last ones end. */
+        final int[] sorted = new int[MOST_STATES + 1];
         boolean present = false;
         // No number here is ever 0, so that all can be divided by.
         int states = 2;
@@ -172,13 +177,27 @@ public final class LineRules {
             windows = nodes * newStates;
         }
 
+        /** To be called when the table is another one. */
         void complete() {
             Arrays.fill(followers, 0L);
-            for (int window = 0; window < windows; window++) {
-                int node = window / states;
-                followers[node * MOST_STATES + table[window]] |= 1L << end(window);
+            int count = 0;
+            for (int state = 0; state < states; state++) {
+                sorted[state] = count;
+                for (int window = 0; window < windows; window++) {
+                    if (table[window] == state) {
+                        enter(window, count);
+                        count++;
+                    }
+                }
             }
+            sorted[states] = count;
             present = true;
+        }
+
+        private void enter(int window, int at) {
+            starts[at] = window / states;
+            ends[at] = end(window);
+            followers[starts[at] * MOST_STATES + table[window]] |= 1L << ends[at];
         }
 
         /** The node that a window leads to. */
@@ -1130,24 +1149,18 @@ public final class LineRules {
         }
 
         private void goOn(int state) {
-            Arrays.fill(later, 0L);
-            for (int node = 0; node < rule.nodes; node++) {
-                if (counts[node] != 0) {
-                    spread(node, state);
-                }
+            // This is the dearest loop of all, so it reads no fields.
+            long[] from = counts;
+            long[] to = later;
+            int[] starts = rule.starts;
+            int[] ends = rule.ends;
+            int last = rule.sorted[state + 1];
+            Arrays.fill(to, 0, rule.nodes, 0L);
+            for (int i = rule.sorted[state]; i < last; i++) {
+                to[ends[i]] += from[starts[i]];
             }
-            long[] spare = counts;
-            counts = later;
-            later = spare;
-        }
-
-        private void spread(int node, int state) {
-            for (int c = 0; c < rule.states; c++) {
-                int window = node * rule.states + c;
-                if (rule.table[window] == state) {
-                    later[rule.end(window)] += counts[node];
-                }
-            }
+            counts = to;
+            later = from;
         }
     }
 

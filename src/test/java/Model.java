@@ -1,6 +1,7 @@
 import java.util.ArrayDeque;
 import java.util.ArrayList;
 import java.util.Arrays;
+import java.util.BitSet;
 import java.util.HashMap;
 import java.util.HashSet;
 import java.util.List;
@@ -119,6 +120,29 @@ final class Model {
         return found;
     }
 
+    /** How many rings are before this one: the trace of a product with a matrix for each cell. */
+    long waysByMatrices(int[] ring) {
+        int nodes = power(states, width - 1);
+        long[][] product = new long[nodes][nodes];
+        for (int node = 0; node < nodes; node++) {
+            product[node][node] = 1;
+        }
+        for (int cell : ring) {
+            long[][] next = new long[nodes][nodes];
+            for (int window = 0; window < table.length; window++) {
+                for (int node = 0; table[window] == cell && node < nodes; node++) {
+                    next[node][window % nodes] += product[node][window / states];
+                }
+            }
+            product = next;
+        }
+        long trace = 0;
+        for (int node = 0; node < nodes; node++) {
+            trace += product[node][node];
+        }
+        return trace;
+    }
+
     /** The orphan that counts, looked for among all rows of up to this many cells; or null. */
     int[] orphanByRows(int most) {
         for (int length = 1; length <= most; length++) {
@@ -142,7 +166,8 @@ final class Model {
         int setsMet = 1;
     }
 
-    Search orphanBySets() {
+    /** A search that has met more than the most sets is given up. */
+    Search orphanBySets(int most) {
         Search search = new Search();
         int nodes = power(states, width - 1);
         Set<Integer> all = new HashSet<>();
@@ -153,7 +178,7 @@ final class Model {
         ArrayDeque<Set<Integer>> queue = new ArrayDeque<>();
         met.put(all, new ArrayList<>());
         queue.add(all);
-        while (!queue.isEmpty()) {
+        while (!queue.isEmpty() && search.setsMet <= most) {
             Set<Integer> set = queue.remove();
             for (int s = 0; s < states; s++) {
                 Set<Integer> next = new HashSet<>();
@@ -185,29 +210,34 @@ final class Model {
         }
         int nodes = power(states, width - 1);
         int pairs = nodes * nodes;
-        boolean[][] reaches = new boolean[pairs][pairs];
+        BitSet[] reaches = new BitSet[pairs];
+        for (int i = 0; i < pairs; i++) {
+            reaches[i] = new BitSet(pairs);
+        }
         for (int v = 0; v < table.length; v++) {
             for (int w = 0; w < table.length; w++) {
                 if (table[v] == table[w]) {
-                    reaches[v / states * nodes + w / states][v % nodes * nodes + w % nodes] = true;
+                    reaches[v / states * nodes + w / states].set(v % nodes * nodes + w % nodes);
                 }
             }
         }
         for (int k = 0; k < pairs; k++) {
             for (int i = 0; i < pairs; i++) {
-                for (int j = 0; reaches[i][k] && j < pairs; j++) {
-                    reaches[i][j] |= reaches[k][j];
+                if (reaches[i].get(k)) {
+                    reaches[i].or(reaches[k]);
                 }
             }
         }
-        for (int pair = 0; pair < pairs; pair++) {
-            boolean comes = false;
-            boolean goes = false;
-            for (int i = 0; i < pairs; i++) {
-                comes |= reaches[i][i] && reaches[i][pair];
-                goes |= reaches[i][i] && reaches[pair][i];
+        BitSet comes = new BitSet(pairs);
+        BitSet round = new BitSet(pairs);
+        for (int i = 0; i < pairs; i++) {
+            if (reaches[i].get(i)) {
+                comes.or(reaches[i]);
+                round.set(i);
             }
-            if (pair / nodes != pair % nodes && comes && goes) {
+        }
+        for (int pair = 0; pair < pairs; pair++) {
+            if (pair / nodes != pair % nodes && comes.get(pair) && reaches[pair].intersects(round)) {
                 return false;
             }
         }
@@ -263,15 +293,5 @@ final class Model {
             }
         }
         return gains;
-    }
-
-    /** Two steps in a row are one step of the rule that this gives. */
-    Model then(Model second) {
-        int wide = width + second.width - 1;
-        int[] joined = new int[power(states, wide)];
-        for (int n = 0; n < joined.length; n++) {
-            joined[n] = second.table[second.pack(stepRow(unpack(n, wide)))];
-        }
-        return new Model(states, wide, joined);
     }
 }

@@ -11,7 +11,7 @@ public final class ReadingTest {
             int states = 2 + dice.nextInt(3);
             int width = 1 + dice.nextInt(4);
             StringBuilder text = new StringBuilder().append(states).append(width).append('E');
-            grow(dice, width, text, 4, 0);
+            Texts.grow(dice, width, text, 4, 0);
             for (int i = dice.nextInt(3); i > 0; i--) {
                 spoil(dice, text);
             }
@@ -58,38 +58,6 @@ public final class ReadingTest {
                 if (at < text.length()) {
                     text.setCharAt(at, sign);
                 }
-        }
-    }
-
-    /** Writes an expression that is mostly without fault. */
-    private static void grow(Random dice, int width, StringBuilder text, int depth, int level) {
-        if (level == 0) {
-            grow(dice, width, text, depth, 1);
-            if (depth > 0 && dice.nextInt(3) == 0) {
-                text.append('?');
-                grow(dice, width, text, depth - 1, 0);
-                text.append(':');
-                grow(dice, width, text, depth - 1, 0);
-            }
-        } else if (level < 6) {
-            grow(dice, width, text, depth, level + 1);
-            String signs = new String[] {"|", "&", "=<", "+-", "*"}[level - 1];
-            while (dice.nextInt(6) == 0) {
-                text.append(signs.charAt(dice.nextInt(signs.length())));
-                grow(dice, width, text, depth, level + 1);
-                if (level == 3) {
-                    break;
-                }
-            }
-        } else if (dice.nextInt(6) == 0) {
-            text.append('!');
-            grow(dice, width, text, depth, 6);
-        } else if (depth > 0 && dice.nextInt(4) == 0) {
-            text.append('(');
-            grow(dice, width, text, depth - 1, 0);
-            text.append(')');
-        } else {
-            text.append(dice.nextInt(4) == 0 ? (char) ('0' + dice.nextInt(10)) : (char) ('a' + dice.nextInt(width)));
         }
     }
 
