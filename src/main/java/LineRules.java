@@ -20,12 +20,12 @@ public final class LineRules {
 
     private final Text text = new Text();
     private final Rule current = new Rule();
-    private final Ring cells = new Ring(current);
+    private final Ring circle = new Ring(current);
     private final Pairs pairs = new Pairs(current);
     private final Inverse reverse = new Inverse(current, pairs);
     private final Weights weights = new Weights(current);
     private final Orphan missing = new Orphan(current, pairs);
-    private final Past past = new Past(current, cells);
+    private final Past past = new Past(current, circle);
 
     public LineRules() {
     }
@@ -39,7 +39,7 @@ public final class LineRules {
         if (fault >= 0) {
             return FAULT_AT_START - fault;
         }
-        cells.clear();
+        circle.clear();
         pairs.forget();
         reverse.forget();
         weights.forget();
@@ -55,28 +55,28 @@ public final class LineRules {
         return current.table[n];
     }
 
-    public int ring(int count) {
-        if (count < 1 || count > MOST_CELLS) {
+    public int ring(int cells) {
+        if (cells < 1 || cells > MOST_CELLS) {
             return NONE;
         }
-        int old = cells.count;
-        cells.resize(count);
+        int old = circle.count;
+        circle.resize(cells);
         past.forget();
         return old;
     }
 
     public int set(int i, int s) {
-        if (!current.present || !cells.has(i) || !current.hasState(s)) {
+        if (!current.present || !circle.has(i) || !current.hasState(s)) {
             return NONE;
         }
-        int old = cells.row[i];
-        cells.row[i] = s;
+        int old = circle.row[i];
+        circle.row[i] = s;
         past.forget();
         return old;
     }
 
     public int get(int i) {
-        return cells.has(i) ? cells.row[i] : NONE;
+        return circle.has(i) ? circle.row[i] : NONE;
     }
 
     public int step(int n) {
@@ -84,14 +84,14 @@ public final class LineRules {
             return NONE;
         }
         past.forget();
-        return cells.run(n);
+        return circle.run(n);
     }
 
     public int population(int s) {
         if (!current.present || !current.hasState(s)) {
             return NONE;
         }
-        return cells.countOf(s);
+        return circle.countOf(s);
     }
 
     public int surjective() {
