@@ -587,9 +587,7 @@ public final class LineRules {
             Arrays.fill(met, 0L);
             Arrays.fill(done, 0L);
             for (int node = 0; node < rule.nodes; node++) {
-                if (partsAndMeetsAtOnce(node)) {
-                    return true;
-                }
+                partAt(node);
             }
             // Each pass but the last looks at a pair that is new.
             boolean more = true;
@@ -609,21 +607,16 @@ public final class LineRules {
             return false;
         }
 
-        private boolean partsAndMeetsAtOnce(int node) {
+        /** Where W is 1 the two are at the only node again: they meet when they go on from it. */
+        private void partAt(int node) {
             int first = node * rule.states;
-            for (int c = 0; c < rule.states; c++) {
-                for (int d = c + 1; d < rule.states; d++) {
-                    if (rule.table[first + c] == rule.table[first + d]) {
-                        int a = rule.end(first + c);
-                        int b = rule.end(first + d);
-                        if (a == b) {
-                            return true;
-                        }
-                        met[a] |= 1L << b;
+            for (int c = first; c < first + rule.states; c++) {
+                for (int d = c + 1; d < first + rule.states; d++) {
+                    if (rule.table[c] == rule.table[d]) {
+                        met[rule.end(c)] |= 1L << rule.end(d);
                     }
                 }
             }
-            return false;
         }
 
         /** Goes on from a and each node of the set, and tells whether the two walks meet then. */

@@ -13,6 +13,7 @@ public final class WeightsTest {
         oneWide();
         byChance();
         wideOnes();
+        heapsOfAllNames();
         Check.end();
     }
 
@@ -70,9 +71,21 @@ public final class WeightsTest {
         return b == 0 ? Math.abs(a) : divisor(b, a % b);
     }
 
-    /** The rule that is the same but for the names of the states 1 and 2. */
-    private static Model renamed(Model model) {
-        int[] name = {0, 2, 1};
+    /** A heap of 2 or 3 gives one on to the left, and the states have all names that they can. */
+    private static void heapsOfAllNames() {
+        Model heaps = Texts.modelOf(Check.with("42Ea-(1<a)+(1<b)"), 4, 2);
+        int[][] names = {{0, 1, 2, 3}, {0, 1, 3, 2}, {0, 2, 1, 3}, {0, 2, 3, 1}, {0, 3, 1, 2}, {0, 3, 2, 1}};
+        for (int[] name : names) {
+            int[] weight = new int[4];
+            for (int s = 0; s < 4; s++) {
+                weight[name[s]] = s;
+            }
+            basis(renamed(heaps, name).text(), weight);
+        }
+    }
+
+    /** The rule that is the same but for the names of the states. */
+    private static Model renamed(Model model, int... name) {
         int[] table = new int[model.table.length];
         for (int n = 0; n < table.length; n++) {
             int[] cells = model.unpack(n, model.width);
@@ -185,7 +198,8 @@ public final class WeightsTest {
         // Heaps that give one on to the next heap if that has room; and the same with 1 and 2 changed.
         basis("33Eb+(0<a&b<2)-(0<b&c<2)", new int[] {0, 1, 2});
         basis("43Eb+(0<a&b<3)-(0<b&c<3)", new int[] {0, 1, 2, 3});
-        basis(renamed(Texts.modelOf(Check.with("33Eb+(0<a&b<2)-(0<b&c<2)"), 3, 3)).text(), new int[] {0, 2, 1});
+        Model heaps = Texts.modelOf(Check.with("33Eb+(0<a&b<2)-(0<b&c<2)"), 3, 3);
+        basis(renamed(heaps, 0, 2, 1).text(), new int[] {0, 2, 1});
         // 1 moves and is lost together with a 2 that it meets.
         basis("32Ea=1?b=2?0:1:b=2?2:0", new int[] {0, 1, -1});
         Random dice = new Random(8);
