@@ -547,8 +547,9 @@ public final class LineRules {
         /** For each node of the one walk the set of nodes of the other. */
         private final long[] met = new long[MOST_NODES];
         private final long[] done = new long[MOST_NODES];
-        private boolean known = false;
+        private boolean missKnown = false;
         private boolean surjective = false;
+        private boolean lossKnown = false;
         private boolean injective = false;
 
         Pairs(Rule rule) {
@@ -556,27 +557,25 @@ public final class LineRules {
         }
 
         void forget() {
-            known = false;
+            missKnown = false;
+            lossKnown = false;
         }
 
         boolean missesNothing() {
-            explore();
+            if (!missKnown) {
+                missKnown = true;
+                surjective = !partAndMeet();
+            }
             return surjective;
         }
 
         boolean losesNothing() {
-            explore();
-            return injective;
-        }
-
-        private void explore() {
-            if (known) {
-                return;
+            if (!lossKnown) {
+                lossKnown = true;
+                // A rule that misses something loses something too.
+                injective = missesNothing() && !stayApart();
             }
-            surjective = !partAndMeet();
-            // A rule that misses something loses something too.
-            injective = surjective && !stayApart();
-            known = true;
+            return injective;
         }
 
         /**
@@ -666,22 +665,16 @@ public final class LineRules {
         /** Those of the nodes beside a from which the two walks can go on to a pair still there. */
         private long lasting(int a) {
             long found = 0;
-            for (int b = 0; b < rule.nodes; b++) {
-                if ((met[a] >>> b & 1) != 0 && goesOn(a, b)) {
-                    found |= 1L << b;
-                }
-            }
-            return found;
-        }
-
-        private boolean goesOn(int a, int b) {
             for (int c = 0; c < rule.states; c++) {
                 int window = a * rule.states + c;
-                if ((rule.behind(b, rule.table[window]) & met[rule.end(window)]) != 0) {
-                    return true;
+                long goals = met[rule.end(window)];
+                for (int b = 0; b < rule.nodes; b++) {
+                    if ((rule.behind(b, rule.table[window]) & goals) != 0) {
+                        found |= 1L << b;
+                    }
                 }
             }
-            return false;
+            return found & met[a];
         }
     }
 
