@@ -1,16 +1,25 @@
 /** Counts the answers that are not as due, and ends a test. */
 final class Check {
+    static final int LEAST = Integer.MIN_VALUE;
+    static final int MOST = Integer.MAX_VALUE;
+
     private static int wrong = 0;
     private static int asked = 0;
+    private static String sentence = "";
 
     private Check() {
+    }
+
+    /** What is asked from now on holds this sentence of the document. */
+    static void sentence(String words) {
+        sentence = "'" + words + "': ";
     }
 
     static void due(String what, long got, long want) {
         asked++;
         if (got != want) {
             wrong++;
-            System.out.println(what + " answered " + got + ", due is " + want);
+            System.out.println(sentence + what + " answered " + got + ", due is " + want);
         }
     }
 
@@ -42,6 +51,10 @@ final class Check {
         LineRules x = new LineRules();
         due("rule of " + text, read(x, text), text.charAt(0) - '0');
         return x;
+    }
+
+    static void fault(String text, int place) {
+        due("rule of " + text, read(new LineRules(), text), -10 - place);
     }
 
     static void fill(LineRules x, int... cells) {

@@ -5,12 +5,10 @@ import java.lang.reflect.Modifier;
 import java.util.Arrays;
 import java.util.TreeSet;
 
-/** The public face, and promise 1: a new object has no rule and no text. */
+/** The public face: the constants, the constructor and the methods of the document, and no others. */
 public final class FaceTest {
     public static void main(String[] args) throws Exception {
         face();
-        newObject();
-        withoutRule();
         Check.end();
     }
 
@@ -37,50 +35,5 @@ public final class FaceTest {
         Constructor<?>[] constructors = LineRules.class.getDeclaredConstructors();
         Check.due("constructors", constructors.length, 1);
         Check.isTrue("public constructor", Modifier.isPublic(constructors[0].getModifiers()));
-    }
-
-    private static void newObject() {
-        LineRules x = new LineRules();
-        Check.due("rule() of no text", x.rule(), -10);
-        Check.due("one cell", x.get(0), 0);
-        Check.due("no second cell", x.get(1), -1);
-        Check.due("load", x.load('2'), 1);
-        LineRules y = new LineRules();
-        Check.due("objects are apart", y.load('2'), 1);
-        Check.due("ring", x.ring(3), 1);
-        Check.due("rings are apart", y.ring(4), 1);
-    }
-
-    /** Also behind a fault, and when the argument is wrong besides. */
-    private static void withoutRule() {
-        LineRules x = new LineRules();
-        for (int time = 0; time < 2; time++) {
-            for (int n = -1; n < 3; n++) {
-                Check.due("next", x.next(n), -1);
-                Check.due("set", x.set(n, 0), -1);
-                Check.due("set", x.set(0, n), -1);
-                Check.due("step", x.step(n), -1);
-                Check.due("population", x.population(n), -1);
-                Check.due("inverse", x.inverse(n), -1);
-                Check.due("undo", x.undo(n), -1);
-                Check.due("weight", x.weight(n, 0), -1);
-                Check.due("weight", x.weight(0, n), -1);
-                Check.due("orphanAt", x.orphanAt(n), -1);
-                Check.due("beforeAt", x.beforeAt(n), -1);
-            }
-            Check.due("surjective", x.surjective(), -1);
-            Check.due("injective", x.injective(), -1);
-            Check.due("conserved", x.conserved(), -1);
-            Check.due("orphan", x.orphan(), -1);
-            Check.due("before", x.before(), -1);
-            Check.due("ways", x.ways(), -1L);
-            Check.due("a fault", Check.read(x, "22Ta"), -13);
-        }
-        Check.due("ring without a rule", x.ring(64), 1);
-        Check.due("get without a rule", x.get(63), 0);
-        Check.due("ring without a rule", x.ring(65), -1);
-        Check.due("get without a rule", x.get(64), -1);
-        Check.due("and then a rule", Check.read(x, "21T01"), 2);
-        Check.due("the ring is kept", x.population(0), 64);
     }
 }

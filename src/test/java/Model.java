@@ -63,6 +63,19 @@ final class Model {
         return new Model(2, 3, table);
     }
 
+    /** The rule that is the same but for the names of the states. */
+    Model renamed(int... name) {
+        int[] other = new int[table.length];
+        for (int n = 0; n < table.length; n++) {
+            int[] cells = unpack(n, width);
+            for (int i = 0; i < cells.length; i++) {
+                cells[i] = name[cells[i]];
+            }
+            other[pack(cells)] = name[table[n]];
+        }
+        return new Model(states, width, other);
+    }
+
     String text() {
         StringBuilder text = new StringBuilder().append(states).append(width).append('T');
         for (int value : table) {

@@ -2,95 +2,13 @@ import java.util.Arrays;
 import java.util.List;
 import java.util.Random;
 
-/** Promises 18 to 20: before, beforeAt and ways. */
+/** Promises 18 to 20 for many rules and rings: before, beforeAt and ways. */
 public final class PastTest {
     public static void main(String[] args) {
-        byHand();
-        wrapping();
-        asksAnew();
         byChance();
         wideOnes();
         greatRings();
         Check.end();
-    }
-
-    private static void byHand() {
-        LineRules x = Check.with("23Ea+c");
-        Check.fill(x, 1, 0, 0, 0);
-        Check.due("before", x.before(), 0);
-        Check.due("beforeAt", x.beforeAt(0), -1);
-        Check.due("ways", x.ways(), 0);
-        Check.fill(x, 1, 0, 1, 0);
-        Check.due("before", x.before(), 1);
-        Check.due("ways", x.ways(), 4);
-        int[] least = {0, 0, 0, 1};
-        for (int i = 0; i < 4; i++) {
-            Check.due("beforeAt(" + i + ")", x.beforeAt(i), least[i]);
-        }
-        for (int i : new int[] {-1, 4, 63, 64, Integer.MIN_VALUE, Integer.MAX_VALUE}) {
-            Check.due("beforeAt(" + i + ")", x.beforeAt(i), -1);
-        }
-    }
-
-    /** So many that a long wraps: there is a ring before it even where ways() is 0. */
-    private static void wrapping() {
-        LineRules x = Check.with("44E0");
-        int[] cells = {1, 31, 32, 33, 64};
-        long[] ways = {4, 1L << 62, 0, 0, 0};
-        for (int i = 0; i < cells.length; i++) {
-            x.ring(cells[i]);
-            Check.due("ways of " + cells[i], x.ways(), ways[i]);
-            Check.due("before of " + cells[i], x.before(), 1);
-            Check.due("beforeAt of " + cells[i], x.beforeAt(cells[i] - 1), 0);
-        }
-        LineRules y = Check.with("23E0");
-        y.ring(63);
-        Check.due("ways of 63", y.ways(), Long.MIN_VALUE);
-        y.ring(62);
-        Check.due("ways of 62", y.ways(), 1L << 62);
-        LineRules z = Check.with("31E0");
-        z.ring(64);
-        long power = 1;
-        for (int i = 0; i < 64; i++) {
-            power *= 3;
-        }
-        Check.due("3 to the 64th", z.ways(), power);
-        Check.due("before", z.before(), 1);
-    }
-
-    /** What was found is not kept when the rule or the ring is another one. */
-    private static void asksAnew() {
-        LineRules x = Check.with("21T00");
-        x.ring(3);
-        expect("all 0", x, 8, 0);
-        x.set(1, 1);
-        expect("set", x, 0, -1);
-        x.set(1, 0);
-        expect("set back", x, 8, 0);
-        x.set(1, 1);
-        expect("set again", x, 0, -1);
-        x.step(0);
-        expect("no step", x, 0, -1);
-        x.step(1);
-        expect("a step", x, 8, 0);
-        x.ring(4);
-        expect("another ring", x, 16, 0);
-        Check.due("a fault", Check.read(x, "2"), -11);
-        expect("a fault", x, 16, 0);
-        Check.due("a new rule", Check.read(x, "21T10"), 2);
-        expect("a new rule", x, 1, 1);
-        Check.due("a new rule", Check.read(x, "31E!a"), 3);
-        expect("a new rule", x, 1, 2);
-        x.set(0, 1);
-        expect("set", x, 1, 1);
-        Check.due("set with a wrong cell", x.set(4, 0), -1);
-        expect("a wrong set", x, 1, 1);
-    }
-
-    private static void expect(String what, LineRules x, long ways, int first) {
-        Check.due(what + ": ways", x.ways(), ways);
-        Check.due(what + ": before", x.before(), first < 0 ? 0 : 1);
-        Check.due(what + ": beforeAt(0)", x.beforeAt(0), first);
     }
 
     private static void compare(LineRules x, Model model, Random dice, int mostCells) {

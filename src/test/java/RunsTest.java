@@ -13,9 +13,9 @@ public final class RunsTest {
     }
 
     public static void main(String[] args) {
-        for (int seed = 0; seed < 150; seed++) {
+        for (int seed = 0; seed < 450; seed++) {
             RunsTest run = new RunsTest(seed);
-            for (int i = 0; i < 60; i++) {
+            for (int i = 0; i < 20; i++) {
                 run.act();
                 run.ask();
                 run.ask();
