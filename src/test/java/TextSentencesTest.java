@@ -321,7 +321,8 @@ public final class TextSentencesTest {
 
     private static void ruleTakesPlaceOfAnother() {
         Check.sentence("Promise 3: its rule is there in place of another one");
-        String[] texts = {"21T10", "33Eb", "23Ea+c", "42Ea-b-b", "44Ed+(b&a)", "31T000", "44E3", "44Eb-a*!d"};
+        String[] texts = {"21T10", "33Eb", "23Ea+c", "42Ea-b-b", "44Ed+(b&a)", "31T000", "44E3", "44Eb-a*!d",
+            "44Eb", "41T0231", "41T0032"};
         for (String first : texts) {
             for (String second : texts) {
                 LineRules x = Check.with(first);

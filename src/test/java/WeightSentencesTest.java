@@ -200,5 +200,10 @@ public final class WeightSentencesTest {
         Check.due("a new rule", Check.read(x, "41E0"), 4);
         Check.due("is asked anew", x.conserved(), 0);
         Check.due("is asked anew", x.weight(0, 2), 0);
+        Check.due("a new rule", Check.read(x, "41T0231"), 4);
+        Check.due("is asked anew", x.weight(0, 1), 1);
+        Check.due("a new rule", Check.read(x, "41T0032"), 4);
+        Check.due("nothing is left of the other", x.weight(0, 1), 0);
+        Check.due("is asked anew", x.weight(0, 3), 1);
     }
 }
